@@ -17,6 +17,7 @@ public final class SonsPurse {
     private static final int SIGNS = 128;
     private static final int OPEN_MOST = 8;
     private static final int DIGITS_MOST = 6;
+    private static final int NOT_HERE = 1, TOO_LONG = 2, TOO_OPEN = 3, EMPTY_FLAW = 1;
     private static final int NET_MOST = 1000000;
     private static final int TEXT = 300;
     private static final int BYTES = 8;
@@ -128,7 +129,7 @@ public final class SonsPurse {
 
     public int fault(int law) {
         if (!isLaw(law)) return BAD;
-        return kept.laws[law].flawNow();
+        return kept.laws[law].flaw;
     }
 
     // ---- purses
@@ -189,12 +190,12 @@ public final class SonsPurse {
         long most = 0;
         long mostBelow = 1;
         for (int k = 0; k < ASKS; k++) {
-            long above = house.askAbove(deal, k);
-            long below = house.askBelow(deal, k);
-            if (compare(above, below, most, mostBelow) > 0) {
+            long asked = house.askAbove(deal, k);
+            long askedBelow = house.askBelow(deal, k);
+            if (compare(asked, askedBelow, most, mostBelow) > 0) {
                 best = k;
-                most = above;
-                mostBelow = below;
+                most = asked;
+                mostBelow = askedBelow;
             }
         }
         return best;
@@ -519,26 +520,26 @@ public final class SonsPurse {
         private final long[] stack = new long[LAW_TEXT];
         private int stepped;
         private int at;
-        private int flaw;
-        private boolean isParsed;
+        int flaw = EMPTY_FLAW;
 
         void add(int character) {
+            if (size >= LAW_TEXT) return;
             text[size] = character;
             size++;
-            isParsed = false;
+            parse();
         }
 
         int empty() {
             int had = size;
             size = 0;
-            isParsed = false;
+            parse();
             return had;
         }
 
         void takeAll(Law other) {
             System.arraycopy(other.text, 0, text, 0, LAW_TEXT);
             size = other.size;
-            isParsed = false;
+            parse();
         }
 
         long digestFrom(long from) {
@@ -547,23 +548,18 @@ public final class SonsPurse {
             return h;
         }
 
-        int flawNow() {
-            if (!isParsed) parse();
-            return flaw;
-        }
-
-        int net(long[] given) {
-            long told = flawNow() == NONE ? work(given) : given[G] + given[S] - given[O] - given[W] + given[H];
+        /** NET by this law. */
+        int brought(long[] given) {
+            long told = flaw == NONE ? work(given) : given[G] + given[S] - given[O] - given[W] + given[H];
             return (int) Math.max(0, Math.min(NET_MOST, told));
         }
 
         private void parse() {
-            isParsed = true;
             flaw = NONE;
             at = 0;
             stepped = 0;
             value(0);
-            if (flaw == NONE && peek() != NONE) blame(at, 1);
+            if (peek() != NONE) blame(at, NOT_HERE);
         }
 
         private void blame(int place, int code) {
@@ -655,19 +651,19 @@ public final class SonsPurse {
                 at++;
                 step('v', LETTERS.indexOf((char) sign));
             } else {
-                blame(at, 1);
+                blame(at, NOT_HERE);
             }
         }
 
         private void opened(int open) {
             if (open >= OPEN_MOST) {
-                blame(at, 3);
+                blame(at, TOO_OPEN);
                 return;
             }
             at++;
             value(open + 1);
             if (peek() == ')') at++;
-            else blame(at, 1);
+            else blame(at, NOT_HERE);
         }
 
         private void digits() {
@@ -676,7 +672,7 @@ public final class SonsPurse {
             for (; at < size && isDigit(text[at]); at++) {
                 if (at - first < DIGITS_MOST) number = 10 * number + (text[at] - '0');
             }
-            if (at - first > DIGITS_MOST) blame(first, 2);
+            if (at - first > DIGITS_MOST) blame(first, TOO_LONG);
             step('n', number);
         }
 
@@ -694,7 +690,7 @@ public final class SonsPurse {
                     top++;
                 } else if (sign == '!' || sign == '~') {
                     if (top < 1) return 0;
-                    stack[top - 1] = sign == '~' ? -stack[top - 1] : truth(stack[top - 1] == 0);
+                    stack[top - 1] = sign == '~' ? -stack[top - 1] : stack[top - 1] == 0 ? 1 : 0;
                 } else {
                     if (top < 2) return 0;
                     top--;
@@ -710,16 +706,12 @@ public final class SonsPurse {
                 case '-': return left - right;
                 case '*': return left * right;
                 case '/': return right == 0 ? 0 : left / right;
-                case '<': return truth(left < right);
-                case '>': return truth(left > right);
-                case '=': return truth(left == right);
-                case '&': return truth(left != 0 && right != 0);
-                default: return truth(left != 0 || right != 0);
+                case '<': return left < right ? 1 : 0;
+                case '>': return left > right ? 1 : 0;
+                case '=': return left == right ? 1 : 0;
+                case '&': return left != 0 && right != 0 ? 1 : 0;
+                default: return left != 0 || right != 0 ? 1 : 0;
             }
-        }
-
-        private static long truth(boolean is) {
-            return is ? 1 : 0;
         }
     }
 
@@ -1064,7 +1056,7 @@ public final class SonsPurse {
             given[O] = debtToHolder(person);
             given[W] = debtToFellows(person);
             given[H] = hidden;
-            return kept.laws[law].net(given);
+            return kept.laws[law].brought(given);
         }
 
         int debtToHolder(int person) {
@@ -1097,14 +1089,13 @@ public final class SonsPurse {
             return maker.lastHand != NONE && maker.endWay != WITH_PURSE && asOf - maker.endDay <= DAYS_BEHIND_END;
         }
 
-        /** NET with what was hidden behind the deal. */
-        int depth(int deal, int law) {
-            Deal asked = dealt[deal];
-            return netOf(asked.maker, law, people[asked.maker].hidden - asked.hiddenAhead, 0);
+        int hiddenBehind(int deal) {
+            return people[dealt[deal].maker].hidden - dealt[deal].hiddenAhead;
         }
 
         int purseAsk(int deal, int law) {
-            return isPurseOpen(deal) ? Math.min(dealt[deal].left(), depth(deal, law)) : 0;
+            if (!isPurseOpen(deal)) return 0;
+            return Math.min(dealt[deal].left(), netOf(dealt[deal].maker, law, hiddenBehind(deal), 0));
         }
 
         /** What an ask comes to is askAbove by askBelow. */
@@ -1154,7 +1145,7 @@ public final class SonsPurse {
             size = kept.lined;
             for (int i = 0; i < size; i++) {
                 leaveOut(i);
-                if (house.isThere(kept.line[i])) take(i, kept.line[i], house);
+                if (house.isThere(kept.line[i])) stand(i, kept.line[i], house);
             }
         }
 
@@ -1169,15 +1160,15 @@ public final class SonsPurse {
             mayShare[i] = false;
         }
 
-        private void take(int i, int deal, House house) {
-            Deal taken = house.dealt[deal];
-            maker[i] = taken.maker;
-            trade[i] = taken.trade;
-            owed[i] = taken.left();
-            depth[i] = house.isPurseOpen(deal) ? house.depth(deal, 0) : 0;
-            part[i] = house.answerer(deal) == NONE ? 0 : house.people[taken.maker].partOf(taken.trade);
-            holderDebt[i] = house.debtToHolder(taken.maker);
-            mayShare[i] = taken.isKnownAhead;
+        private void stand(int i, int deal, House house) {
+            Deal lined = house.dealt[deal];
+            maker[i] = lined.maker;
+            trade[i] = lined.trade;
+            owed[i] = lined.left();
+            if (house.isPurseOpen(deal)) depth[i] = house.netOf(lined.maker, 0, house.hiddenBehind(deal), 0);
+            part[i] = house.people[lined.maker].partOf(lined.trade);
+            holderDebt[i] = house.debtToHolder(lined.maker);
+            mayShare[i] = lined.isKnownAhead && house.answerer(deal) != NONE;
         }
 
         private long take(int i, long goneAhead) {
