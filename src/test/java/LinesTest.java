@@ -11,6 +11,7 @@ public final class LinesTest {
         fourRests();
         noRest();
         twoTrades();
+        threeTrades();
         nobodyAnswers();
         due.end();
     }
@@ -138,6 +139,25 @@ public final class LinesTest {
         for (int k : new int[] {2, 0, 1}) x.line(k);
         // 100 goes to the other trade's deal first, which may not share: by PURSE 30, 0 are left, and 0, 0 where one shares
         restsAre(x, 0, 6);
+    }
+
+    /** A part is taken from the purse once, and those who share in it share with their own trade alone. */
+    private static void threeTrades() {
+        SonsPurse x = Due.persons(2);
+        Due.notes(x, new int[][] {{0, 0, 1, 0, 0}, {0, 8, 1, 0, 0}, {0, 8, 1, 1, 0}, {0, 1, 1, 0, 60}, {0, 1, 1, 1, 30}, {0, 1, 1, 2, 70},
+            {0, 4, 1, 0, 60}, {0, 4, 1, 0, 60}, {0, 4, 1, 1, 30}, {0, 4, 1, 2, 160}});
+        for (int k : new int[] {3, 0, 1, 2}) x.line(k);
+        // the deal without a share takes all that is left: 30, 30 of 60 and 30 of 30 are more than nothing
+        restsAre(x, 0, 14);
+        x.unline();
+        for (int k : new int[] {0, 1, 2, 3}) x.line(k);
+        // 160 are there; 60 go by PURSE or SHARE alike, to one or two of trade 0; 30 by either
+        restsAre(x, 0, 0, 1, 2, 4, 5, 6);
+        x.note(1, 4, 1, 0, 40);
+        x.line(4);
+        restsAre(x, 0, 0, 1, 2, 4, 5, 6);
+        // on day 1 the last gets nothing by PURSE, so he shares; then the second and the third do better so, too
+        restsAre(x, 1, 22);
     }
 
     private static void nobodyAnswers() {

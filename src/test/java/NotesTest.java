@@ -238,6 +238,11 @@ public final class NotesTest {
         due.is("the image is kept on", x.from(0) + x.from(0), 2);
         due.is("as at first again", x.digest(), first);
         due.is("image(0) anew", x.image(0), 1);
+        x.note(5, 1, 1, 0, 1);
+        x.doubt(3, true);
+        x.from(0);
+        x.note(5, 1, 1, 0, 1);
+        due.is("a new note is not doubted", x.told(3, 5) + 10 * x.count(3), 10);
         int[] bad = {-1, 2, Integer.MIN_VALUE, Integer.MAX_VALUE};
         for (int i : bad) due.is("image(" + i + ")", x.image(i), -2);
         for (int i : bad) due.is("from(" + i + ")", x.from(i), -2);
