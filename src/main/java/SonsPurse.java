@@ -1168,7 +1168,7 @@ public final class SonsPurse {
             if (house.isPurseOpen(deal)) depth[i] = house.netOf(lined.maker, 0, house.hiddenBehind(deal), 0);
             part[i] = house.people[lined.maker].partOf(lined.trade);
             holderDebt[i] = house.debtToHolder(lined.maker);
-            mayShare[i] = lined.isKnownAhead && house.answerer(deal) != NONE;
+            mayShare[i] = lined.isKnownAhead;
         }
 
         private long take(int i, long goneAhead) {

@@ -13,6 +13,8 @@ public final class LinesTest {
         twoTrades();
         threeTrades();
         nobodyAnswers();
+        nobodyAnswersForTwo();
+        sharesOfClosed();
         due.end();
     }
 
@@ -160,10 +162,36 @@ public final class LinesTest {
         restsAre(x, 1, 22);
     }
 
+    /** Who may choose SHARE hangs on the trade being known alone: nobody need answer, and the purse need not be open. */
     private static void nobodyAnswers() {
         SonsPurse x = Due.persons(2);
-        Due.notes(x, new int[][] {{0, 8, 1, 0, 0}, {0, 1, 1, 0, 60}, {0, 4, 1, 0, 60}});
+        Due.notes(x, new int[][] {{0, 8, 1, 0, 0}, {0, 4, 1, 0, 60}, {0, 4, 1, 1, 20}, {1, 1, 1, 0, 60}});
         x.line(0);
-        restsAre(x, 0, 0);
+        x.line(1);
+        due.is("answers(0, 1)", x.answers(0, 1), -1);
+        // nothing is in the part: 0 by either choice; then 60 by SHARE, and still nothing by PURSE
+        restsAre(x, 0, 0, 1);
+        restsAre(x, 1, 1);
+    }
+
+    /** Two of one trade share with one another, though nobody answers for them; one of a trade not known may not. */
+    private static void nobodyAnswersForTwo() {
+        SonsPurse x = Due.persons(2);
+        Due.notes(x, new int[][] {{0, 8, 1, 0, 0}, {0, 1, 1, 0, 60}, {0, 1, 1, 1, 60}, {0, 4, 1, 1, 60}, {0, 4, 1, 0, 60}, {0, 4, 1, 0, 60},
+            {2, 0, 1, 0, 0}, {3, 0, 1, -1, 0}});
+        for (int k = 0; k < 3; k++) x.line(k);
+        restsAre(x, 1, 6);
+        // answered for: the first takes 60 of 120 by PURSE, and all that is left where one of the others shares
+        restsAre(x, 2, 6);
+        restsAre(x, 3, 6);
+    }
+
+    /** He who was holder once answers, but the purse is closed to all who ask it. */
+    private static void sharesOfClosed() {
+        SonsPurse x = Due.persons(2);
+        Due.notes(x, new int[][] {{0, 0, 1, 0, 0}, {0, 8, 1, 0, 0}, {0, 1, 1, 0, 60}, {0, 4, 1, 0, 60}, {1, 14, 1, 2, 0}});
+        x.line(0);
+        restsAre(x, 0, 0, 1);
+        restsAre(x, 1, 1);
     }
 }

@@ -582,7 +582,7 @@ final class Oracle {
         int may = 0;
         for (int i = 0; i < now.line.size(); i++) {
             int d = now.line.get(i);
-            if (w.isHere(d) && w.known(d) && w.answers(d) >= 0) may |= 1 << i;
+            if (w.isHere(d) && w.known(d)) may |= 1 << i;
         }
         List<Integer> rests = new ArrayList<>();
         for (int row = 0; row < 1 << now.line.size(); row++) {
