@@ -1138,6 +1138,7 @@ public final class SonsPurse {
         private final int[] part = new int[LINE];
         private final int[] holderDebt = new int[LINE];
         private final boolean[] mayShare = new boolean[LINE];
+        private final boolean[] isAnswered = new boolean[LINE];
         long least;
         long most;
 
@@ -1158,6 +1159,7 @@ public final class SonsPurse {
             part[i] = 0;
             holderDebt[i] = 0;
             mayShare[i] = false;
+            isAnswered[i] = false;
         }
 
         private void stand(int i, int deal, House house) {
@@ -1169,6 +1171,7 @@ public final class SonsPurse {
             part[i] = house.people[lined.maker].partOf(lined.trade);
             holderDebt[i] = house.debtToHolder(lined.maker);
             mayShare[i] = lined.isKnownAhead;
+            isAnswered[i] = house.answerer(deal) != NONE;
         }
 
         private long take(int i, long goneAhead) {
@@ -1237,8 +1240,9 @@ public final class SonsPurse {
             return isIn(row, i) ? purseIsMore > 0 : purseIsMore < 0;
         }
 
+        /** A share that nobody answers for may be chosen, but nothing is got by it. */
         private long shareAbove(int i, long all) {
-            return Math.min((long) owed[i] * part[i], owed[i] * all);
+            return isAnswered[i] ? Math.min((long) owed[i] * part[i], owed[i] * all) : 0;
         }
 
         private long sharersOwed(int i, int row) {

@@ -14,6 +14,7 @@ public final class LinesTest {
         threeTrades();
         nobodyAnswers();
         nobodyAnswersForTwo();
+        nobodyAnswersForOne();
         sharesOfClosed();
         due.end();
     }
@@ -162,28 +163,39 @@ public final class LinesTest {
         restsAre(x, 1, 22);
     }
 
-    /** Who may choose SHARE hangs on the trade being known alone: nobody need answer, and the purse need not be open. */
+    /** Who may choose SHARE hangs on the trade being known alone; but where nobody answers, he gets 0 by it, as by PURSE. */
     private static void nobodyAnswers() {
         SonsPurse x = Due.persons(2);
-        Due.notes(x, new int[][] {{0, 8, 1, 0, 0}, {0, 4, 1, 0, 60}, {0, 4, 1, 1, 20}, {1, 1, 1, 0, 60}});
+        Due.notes(x, new int[][] {{0, 8, 1, 0, 0}, {0, 4, 1, 0, 60}, {0, 4, 1, 1, 20}, {1, 1, 1, 0, 60}, {2, 0, 1, 0, 0}, {3, 0, 1, -1, 0}});
         x.line(0);
         x.line(1);
         due.is("answers(0, 1)", x.answers(0, 1), -1);
-        // nothing is in the part: 0 by either choice; then 60 by SHARE, and still nothing by PURSE
-        restsAre(x, 0, 0, 1);
-        restsAre(x, 1, 1);
+        due.is("answers(0, 2)", x.answers(0, 2), 0);
+        due.is("answers(0, 3)", x.answers(0, 3), -1);
+        // something is in the part from day 1 on; 60 by either choice on day 2; let go by HAND, not by END, on day 3
+        for (int day = 0; day < 4; day++) restsAre(x, day, 0, 1);
     }
 
-    /** Two of one trade share with one another, though nobody answers for them; one of a trade not known may not. */
+    /** Two of one trade, and one of a trade not known, who may not choose SHARE. */
     private static void nobodyAnswersForTwo() {
         SonsPurse x = Due.persons(2);
         Due.notes(x, new int[][] {{0, 8, 1, 0, 0}, {0, 1, 1, 0, 60}, {0, 1, 1, 1, 60}, {0, 4, 1, 1, 60}, {0, 4, 1, 0, 60}, {0, 4, 1, 0, 60},
             {2, 0, 1, 0, 0}, {3, 0, 1, -1, 0}});
         for (int k = 0; k < 3; k++) x.line(k);
-        restsAre(x, 1, 6);
+        restsAre(x, 1, 0, 2, 4, 6);
         // answered for: the first takes 60 of 120 by PURSE, and all that is left where one of the others shares
         restsAre(x, 2, 6);
-        restsAre(x, 3, 6);
+        restsAre(x, 3, 0, 2, 4, 6);
+    }
+
+    /** One for whom nobody answers takes nothing from another person's choices. */
+    private static void nobodyAnswersForOne() {
+        SonsPurse x = Due.persons(3);
+        Due.notes(x, new int[][] {{0, 0, 1, 0, 0}, {0, 8, 1, 0, 0}, {0, 8, 2, 0, 0}, {0, 1, 1, 0, 60}, {0, 1, 2, 0, 60}, {0, 4, 2, 0, 60},
+            {0, 4, 1, 0, 60}, {0, 4, 1, 0, 60}});
+        for (int k = 0; k < 3; k++) x.line(k);
+        // of the answered two each shares, as if they were alone; the first chooses either
+        restsAre(x, 0, 6, 7);
     }
 
     /** He who was holder once answers, but the purse is closed to all who ask it. */

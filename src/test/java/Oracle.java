@@ -226,7 +226,7 @@ final class Oracle {
                         int[] other = deal(row.get(j));
                         if ((shares >> j & 1) == 1 && other[2] == p && other[3] == t) all += owed(row.get(j));
                     }
-                    got[i] = share(in(p, t), owed(row.get(i)), all);
+                    if (answers(row.get(i)) >= 0) got[i] = share(in(p, t), owed(row.get(i)), all);
                     continue;
                 }
                 if (!purseOpen(row.get(i))) continue;
