@@ -1,3 +1,6 @@
+import java.util.Arrays;
+import java.util.function.LongSupplier;
+
 /** Counts the answers that are not as due, and makes states to ask of. */
 final class Due {
     private int wrong = 0;
@@ -11,6 +14,31 @@ final class Due {
     void fraction(String call, SonsPurse x, long above, long below) {
         is(call + ", part(0)", x.part(0), above);
         is(call + ", part(1)", x.part(1), below);
+    }
+
+    /** Each of the calls is refused, and nothing that can be seen is another after them. */
+    void refuses(String call, SonsPurse x, long want, LongSupplier... calls) {
+        long before = x.digest();
+        int typed = x.count(5);
+        for (int k = 0; k < calls.length; k++) is(call + ", call " + k, calls[k].getAsLong(), want);
+        is(call + " changed nothing", x.digest(), before);
+        is(call + " left THE TEXT", x.count(5), typed);
+    }
+
+    void refusesNotes(SonsPurse x, long want, int[]... notes) {
+        long before = x.digest();
+        for (int[] n : notes) is("note" + Arrays.toString(n), note(x, n), want);
+        is("refused notes changed nothing", x.digest(), before);
+    }
+
+    /** Notes of five numbers each, each of which comes. */
+    void comes(SonsPurse x, int[]... notes) {
+        int first = x.count(1);
+        for (int k = 0; k < notes.length; k++) is("note" + Arrays.toString(notes[k]), note(x, notes[k]), first + k);
+    }
+
+    static int note(SonsPurse x, int[] n) {
+        return x.note(n[0], n[1], n[2], n[3], n[4]);
     }
 
     void end() {
@@ -35,6 +63,6 @@ final class Due {
 
     /** Notes of five numbers each. */
     static void notes(SonsPurse x, int[][] notes) {
-        for (int[] n : notes) x.note(n[0], n[1], n[2], n[3], n[4]);
+        for (int[] n : notes) note(x, n);
     }
 }
