@@ -41,6 +41,7 @@ public final class BoundsOfAsksTest extends Kinds {
         bestOfLikeOnes();
         bestOfNone();
         bestOfShares();
+        pursesInPurses();
         due.end();
     }
 
@@ -442,5 +443,17 @@ public final class BoundsOfAsksTest extends Kinds {
         due.comes(y, new int[][] {{0, HAND, 1, 0, 0}, {0, KNOW, 1, 0, 0}, {0, DEAL, 1, 0, 2}, {0, GIVE, 1, 0, 4}, {0, OWE, 1, 0, 3}});
         ask(y, 0, SHARE, 0, 8, 5);
         due.is("1 by PURSE, 8 by 5 by SHARE", y.best(0, 0), SHARE);
+    }
+
+    /** PURSE is of NET, so of what is in the purses of those in his hand: the ASK, and BEST by one more than another. */
+    private static void pursesInPurses() {
+        SonsPurse x = Due.persons(3);
+        due.comes(x, new int[][] {{0, HAND, 1, 0, 0}, {0, HAND, 2, 1, 0}, {0, DEAL, 1, 0, 100}, {0, USE, 0, 0, 30}, {0, GIVE, 2, 0, 30}, {1, GIVE, 2, 0, 1},
+            {2, HAND, 2, 0, 0}});
+        int[][] due1 = {{30, TURNED}, {31, PURSE}, {0, TURNED}};
+        for (int day = 0; day < 3; day++) {
+            ask(x, 0, PURSE, day, due1[day][0]);
+            due.is("best(0, " + day + ")", x.best(0, day), due1[day][1]);
+        }
     }
 }

@@ -25,6 +25,7 @@ public final class BoundsOfDoubtTest extends Kinds {
         soElsewhere();
         payIsSoElsewhere();
         hangsAlone();
+        doubtInPursesInPurses();
         bitsInOrderOfNotes();
         wayWithoutAnother();
         partedRefused();
@@ -358,6 +359,22 @@ public final class BoundsOfDoubtTest extends Kinds {
         due.is("hangs", x.hangs(0, TURNED, 1), 4);
         due.is("hangs", x.hangs(0, SHARE, 1), 0);
         due.fraction("THE FRACTION stays", x, 0, 1);
+    }
+
+    /** What is in the purses of those in his hand may hang on a NOTE of theirs. */
+    private static void doubtInPursesInPurses() {
+        SonsPurse x = Due.persons(4);
+        due.comes(x, new int[][] {{0, HAND, 1, 0, 0}, {0, HAND, 2, 1, 0}, {0, HAND, 3, 2, 0}, {0, DEAL, 1, 0, 100}, {0, GIVE, 2, 0, 20}, {0, GIVE, 3, 0, 30},
+            {0, OWE, 3, 2, 7}, {0, OWE, 2, 1, 25}});
+        due.is("hangs", x.hangs(0, PURSE, 0), 0);
+        for (int n = 4; n < 8; n++) x.doubt(n, true);
+        due.is("hangs", x.hangs(0, PURSE, 0), 15);
+        sure(x, PURSE, 0, 0, 50, 15);
+        x.doubt(4, false);
+        sure(x, PURSE, 0, 0, 50, 7);
+        x.doubt(7, false);
+        // 20 and 30 less 7, or 30, or none, less 25
+        sure(x, PURSE, 0, 0, 25, 3);
     }
 
     /** "(as bits of these in order)": of NOTES, whichever was DOUBTED first. */

@@ -124,6 +124,9 @@ public final class BoundsOfNotesTest extends Kinds {
         }
         due.comes(x, new int[][] {{7, GIVE, 1, 0, 1}});
         due.refusesNotes(x, BAD, new int[] {6, GIVE, 1, 0, 1});
+        SonsPurse y = Due.persons(2);
+        due.comes(y, new int[] {7, HAND, 1, 0, 0});
+        due.refusesNotes(y, BAD, new int[] {6, GIVE, 1, 0, 1}, new int[] {0, DEAL, 1, 0, 1});
         due.refusesNotes(x, NO, new int[] {9, TAKE, 1, 1, 1});
         due.is("the day of a refused note does not count", x.note(8, GIVE, 1, 0, 1), 13);
     }

@@ -119,10 +119,9 @@ public final class BoundsOfTextsTest extends Kinds {
         due.is("read", x.read(), 1);
         due.is("in", x.in(2, 2, 5), 1);
         SonsPurse y = Due.persons(3);
-        for (int k = 0; k < 60; k += 20) {
-            for (int j = 0; j < 20; j++) Due.type(y, GIFT);
-            due.is("read", y.read(), 20);
-        }
+        for (int k = 0; k < 40; k++) due.comes(y, new int[] {5, GIVE, 2, 2, 1});
+        for (int k = 0; k < 20; k++) Due.type(y, GIFT);
+        due.is("read", y.read(), 20);
         due.is("in", y.in(2, 2, 5), 60);
     }
 
@@ -367,6 +366,7 @@ public final class BoundsOfTextsTest extends Kinds {
     /** "none of them comes"; "nothing changes": notes, deals and THE TEXT stay. */
     private static void noneOfThemComes() {
         SonsPurse x = house(due);
+        x.person();
         Due.type(x, "6 deal 1 0 9; 7 end 1 0; 7 give 2 2 1; 7 end 1 0;");
         due.refuses("the fourth", x, -1003, () -> x.read(), () -> x.read());
         due.is("count(1)", x.count(1), 12);
