@@ -1204,7 +1204,7 @@ public final class SonsPurse {
         }
 
         void tryOrders(int i) {
-            least = Long.MAX_VALUE;
+            least = owed[i];
             most = 0;
             tryAhead(i, 0, 0, 0);
         }

@@ -80,6 +80,7 @@ public final class LanguageTest {
             String edge = Character.isLetter(word.charAt(0)) ? "\\b" : "";
             no("in the source: " + word, Pattern.compile(edge + Pattern.quote(word) + (edge.isEmpty() || word.endsWith(")") ? "" : edge)).matcher(code).find());
         }
+        no("a library's field, where its functions alone are listed", Pattern.compile("\\b(Integer|Long|Math)\\.[A-Z]").matcher(code).find());
         Matcher signs = Pattern.compile("[^\\x0a\\x20-\\x7e]").matcher(source);
         no("a sign that is not plain", signs.find());
         int first = 0;
